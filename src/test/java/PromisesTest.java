@@ -1,19 +1,8 @@
-import java.nio.charset.StandardCharsets;
-import java.util.NoSuchElementException;
-import java.util.function.LongSupplier;
-
 /**
  * Each promise by answers that were found by hand from the document. What SEED 1 draws is
  * 16838, 5758, 10113, 17515, 31051, 5627, 23010, 7419, 16212, 4086 (each MOD n then).
  */
-public final class PromisesTest {
-    private static final long MISSING = Long.MIN_VALUE;
-    private static final long ILLEGAL = Long.MIN_VALUE + 1;
-    private static final String SIX_SKIPS = "thread skip,skip,skip,skip,skip,skip;";
-    private static final String LOOP = "thread a:jump a;";
-    private static int wrong = 0;
-    private static int promise = 0;
-
+public final class PromisesTest extends Checks {
     public static void main(String[] args) {
         aNewObject();
         feed();
@@ -59,62 +48,11 @@ public final class PromisesTest {
         image();
         restore();
         restoreBehindOtherActs();
-        System.out.println(wrong == 0 ? "all promises are kept" : wrong + " answers are not as due");
-        if (wrong != 0) System.exit(1);
+        finish("all promises are kept");
     }
-
-    private static long answer(LongSupplier call) {
-        try {
-            return call.getAsLong();
-        } catch (NoSuchElementException e) {
-            return MISSING;
-        } catch (IllegalArgumentException e) {
-            return ILLEGAL;
-        }
-    }
-
-    private static void due(String call, LongSupplier got, long want) {
-        long was = answer(got);
-        if (was != want) {
-            wrong++;
-            System.out.println("promise " + promise + ": " + call + " answered " + was + ", due is " + want);
-        }
-    }
-
-    private static void missing(String call, LongSupplier got) { due(call, got, MISSING); }
-
-    private static void put(RecordDesk x, String text) {
-        byte[] bytes = text.getBytes(StandardCharsets.ISO_8859_1);
-        for (int from = 0; from < bytes.length; from += 20) {
-            int[] w = new int[5];
-            for (int i = 0; i < 20; i++) {
-                w[i / 4] = w[i / 4] << 8 | (from + i < bytes.length ? bytes[from + i] & 255 : 32);
-            }
-            x.feed(w[0], w[1], w[2], w[3], w[4]);
-        }
-    }
-
-    private static int told(RecordDesk x, String text) {
-        put(x, text);
-        return x.program(text.length());
-    }
-
-    private static RecordDesk desk(String text) {
-        RecordDesk x = new RecordDesk();
-        due("program of " + text, () -> told(x, text), 0);
-        return x;
-    }
-
-    private static RecordDesk ran(String text, int steps) {
-        RecordDesk x = desk(text);
-        due("steps of " + text, () -> x.steps(steps), steps);
-        return x;
-    }
-
-    private static String times(String part, int many) { return part.repeat(many); }
 
     private static void aNewObject() {
-        promise = 1;
+        about("promise 1");
         RecordDesk x = new RecordDesk();
         int[] all = {0, 0, -1, 0, 0, 0, 0, 0, 0, 1, 0, 0, 0, 0, 0, 0, 0, 0};
         for (int i = 0; i < all.length; i++) {
@@ -132,7 +70,7 @@ public final class PromisesTest {
     }
 
     private static void feed() {
-        promise = 2;
+        about("promise 2");
         RecordDesk x = new RecordDesk();
         for (int i = 1; i <= 35; i++) {
             due("feed " + i, () -> x.feed(0, 0, 0, 0, 0), 20 * i);
@@ -150,7 +88,7 @@ public final class PromisesTest {
     }
 
     private static void program() {
-        promise = 3;
+        about("promise 3");
         RecordDesk x = ran(SIX_SKIPS, 3);
         x.give(0, 4);
         x.seek(2);
@@ -192,7 +130,7 @@ public final class PromisesTest {
     }
 
     private static void fault() {
-        promise = 4;
+        about("promise 4");
         RecordDesk x = new RecordDesk();
         told(x, "seed 5; x");
         due("fault()", x::fault, 8);
@@ -200,15 +138,8 @@ public final class PromisesTest {
         due("fault() without", x::fault, -1);
     }
 
-    private static void text(String text, int code, int place) {
-        RecordDesk x = new RecordDesk();
-        due("program of " + text, () -> told(x, text), code);
-        due("fault of " + text, x::fault, place);
-        due("status of " + text, () -> x.count(16), code == 0 ? 0 : 1);
-    }
-
     private static void faultsOfTexts() {
-        promise = 3;
+        about("promise 3");
         text("", 0, -1);
         text(" \n ", 0, -1);
         text("seed1;quantum 9;point 50;snaps 8;cell 15-9999;cell 0 - 0003;", 0, -1);
@@ -299,7 +230,7 @@ public final class PromisesTest {
 
     /** What stands on the tape behind the first n bytes is no part of the text. */
     private static void cutTexts() {
-        promise = 3;
+        about("promise 3");
         RecordDesk x = new RecordDesk();
         put(x, "seed 12345;");
         due("a number is cut", () -> x.program(9), 1);
@@ -316,7 +247,7 @@ public final class PromisesTest {
     }
 
     private static void count() {
-        promise = 5;
+        about("promise 5");
         RecordDesk x = desk("point 3;quantum 2;thread lock 0,read 1 2,skip;thread lock 0,skip;thread skip;");
         x.give(2, 9);
         x.give(2, 8);
@@ -343,7 +274,7 @@ public final class PromisesTest {
     }
 
     private static void ring() {
-        promise = 5;
+        about("promise 5");
         RecordDesk one = desk("thread lock 2,lock 2;thread lock 2;");
         one.steps(50);
         // Thread 0 has it and waits for itself; thread 1 waits for it, but nobody for thread 1.
@@ -358,7 +289,7 @@ public final class PromisesTest {
     }
 
     private static void set() {
-        promise = 6;
+        about("promise 6");
         RecordDesk x = desk("snaps 7;point 33;seed 1234;quantum 8;");
         due("set(0)", () -> x.set(0), 8);
         due("set(1)", () -> x.set(1), 1234);
@@ -371,7 +302,7 @@ public final class PromisesTest {
     }
 
     private static void steps() {
-        promise = 7;
+        about("promise 7");
         RecordDesk x = desk(LOOP);
         due("steps(0)", () -> x.steps(0), -1);
         due("steps(51)", () -> x.steps(51), -1);
@@ -395,7 +326,7 @@ public final class PromisesTest {
     }
 
     private static void draws() {
-        promise = 7;
+        about("promise 7");
         RecordDesk x = desk(SIX_SKIPS + SIX_SKIPS);
         int[] lefts = {1, 0, 1, 0, 2, 1, 0, 0};
         int[] currents = {0, 0, 1, 1, 1, 1, 1, 0};
@@ -412,7 +343,7 @@ public final class PromisesTest {
     }
 
     private static void instructions() {
-        promise = 16;
+        about("promise 16");
         RecordDesk x = ran("cell 2 -7;thread set 0 -9999,load 1 2,add 2 1,sub 3 1,mul 0 0,mul 0 0,store 1 0,skip;", 8);
         x.seek(8);
         // 9999 times 9999 is 99980001, and that times itself wraps to a number of 32 bits.
@@ -432,7 +363,7 @@ public final class PromisesTest {
     }
 
     private static void give() {
-        promise = 8;
+        about("promise 8");
         RecordDesk x = new RecordDesk();
         for (int i = 1; i <= 30; i++) {
             due("give " + i, () -> x.give(2, 5), i);
@@ -450,7 +381,7 @@ public final class PromisesTest {
     }
 
     private static void undo() {
-        promise = 9;
+        about("promise 9");
         RecordDesk x = desk(LOOP);
         due("undo() of none", x::undo, -1);
         due("status 1", () -> x.count(17), 0);
@@ -470,7 +401,7 @@ public final class PromisesTest {
     }
 
     private static void undoBringsAllBack() {
-        promise = 9;
+        about("promise 9");
         String text = "point 2;quantum 2;cell 1 4;thread a:read 0 0,lock 1,store 1 0,unlock 1,jump a;" + LOOP;
         RecordDesk x = desk(text);
         RecordDesk y = desk(text);
@@ -506,7 +437,7 @@ public final class PromisesTest {
     }
 
     private static void switched() {
-        promise = 10;
+        about("promise 10");
         RecordDesk x = ran(SIX_SKIPS + SIX_SKIPS, 8);
         int[][] all = {{0, 0, 0}, {0, 2, 1}, {0, 5, 0}};
         for (int i = 0; i < 3; i++) {
@@ -526,7 +457,7 @@ public final class PromisesTest {
     }
 
     private static void input() {
-        promise = 11;
+        about("promise 11");
         RecordDesk x = desk("thread a:read 0 1,read 0 2,jump a;");
         missing("input(1, 0)", () -> x.input(1, 0));
         x.give(1, 5);
@@ -544,20 +475,8 @@ public final class PromisesTest {
         missing("input(-1, 0)", () -> x.input(-1, 0));
     }
 
-    /** The DIGEST of CELLS that are all 0 but one, and of what stands behind them. */
-    private static int digestOf(int cell, int value, int... behind) {
-        int digest = 7;
-        for (int i = 0; i < 16; i++) {
-            digest = digest * 31 + (i == cell ? value : 0);
-        }
-        for (int number : behind) {
-            digest = digest * 31 + number;
-        }
-        return digest;
-    }
-
     private static void digest() {
-        promise = 12;
+        about("promise 12");
         RecordDesk x = ran("point 2;thread lock 3,set 1 6,store 5 1,a:jump a;", 5);
         due("digest(0)", () -> x.digest(0), digestOf(5, 0, 0, 6, 0, 0, 2, 0, -1, -1, -1, 0, 0));
         due("digest(1)", () -> x.digest(1), digestOf(5, 6, 0, 6, 0, 0, 3, 1, -1, -1, -1, 0, 0));
@@ -569,7 +488,7 @@ public final class PromisesTest {
     }
 
     private static void snapshot() {
-        promise = 13;
+        about("promise 13");
         RecordDesk x = ran(LOOP, 15);
         missing("snapshot(1) at 15", () -> x.snapshot(1));
         x.steps(1);
@@ -596,7 +515,7 @@ public final class PromisesTest {
     }
 
     private static void seek() {
-        promise = 14;
+        about("promise 14");
         RecordDesk x = ran(LOOP, 40);
         due("seek(0)", () -> x.seek(0), 0);
         due("seek(15)", () -> x.seek(15), 15);
@@ -612,7 +531,7 @@ public final class PromisesTest {
     }
 
     private static void cell() {
-        promise = 15;
+        about("promise 15");
         RecordDesk x = ran("cell 4 -12;thread set 0 8,store 4 0,store 15 0;", 3);
         due("cell(4) at 0", () -> x.cell(4), -12);
         x.seek(2);
@@ -625,7 +544,7 @@ public final class PromisesTest {
     }
 
     private static void thread() {
-        promise = 16;
+        about("promise 16");
         RecordDesk x = ran(SIX_SKIPS + SIX_SKIPS, 8);
         due("current at 0", () -> x.thread(0, 7) + x.thread(1, 7), 0);
         x.seek(7);
@@ -644,7 +563,7 @@ public final class PromisesTest {
     }
 
     private static void lock() {
-        promise = 17;
+        about("promise 17");
         RecordDesk x = ran("thread lock 3,unlock 2,unlock 3,skip;", 4);
         int[] all = {-1, 0, 0, -1, -1};
         for (int i = 0; i < all.length; i++) {
@@ -662,7 +581,7 @@ public final class PromisesTest {
     }
 
     private static void mark() {
-        promise = 18;
+        about("promise 18");
         RecordDesk x = ran("point 50;cell 5 3;thread lock 3,set 1 6,store 5 1,a:jump a;", 5);
         due("mark() at 0", x::mark, digestOf(5, 3, 0, 0, 0, 0, 0, 0, -1, -1, -1, -1, -1));
         x.seek(4);
@@ -672,7 +591,7 @@ public final class PromisesTest {
     }
 
     private static void back() {
-        promise = 19;
+        about("promise 19");
         RecordDesk x = ran("thread skip,a:skip,jump a;", 9);
         due("back at 0", () -> x.back(0, 1), -1);
         x.seek(8);
@@ -688,7 +607,7 @@ public final class PromisesTest {
     }
 
     private static void on() {
-        promise = 20;
+        about("promise 20");
         RecordDesk x = ran("thread skip,a:skip,jump a;", 9);
         due("on", () -> x.on(0, 1), 2);
         due("cursor", () -> x.count(11), 2);
@@ -705,7 +624,7 @@ public final class PromisesTest {
     }
 
     private static void last() {
-        promise = 21;
+        about("promise 21");
         RecordDesk x = ran("thread set 0 4,store 3 0,load 1 3,store 3 1,skip;", 5);
         due("last at 0", () -> x.last(3, 0), -1);
         due("last at 0", () -> x.last(3, 1), -1);
@@ -724,7 +643,7 @@ public final class PromisesTest {
     }
 
     private static void held() {
-        promise = 22;
+        about("promise 22");
         RecordDesk x = ran("cell 3 11;thread set 0 4,store 3 0,set 0 5,store 3 0,skip;", 5);
         missing("held at 0", () -> x.held(3));
         x.seek(2);
@@ -739,7 +658,7 @@ public final class PromisesTest {
     }
 
     private static void firstRead() {
-        promise = 23;
+        about("promise 23");
         RecordDesk x = ran("thread skip,load 0 2,store 2 0,load 0 2;", 3);
         due("firstRead at 0", () -> x.firstRead(2), 2);
         x.seek(2);
@@ -759,7 +678,7 @@ public final class PromisesTest {
     }
 
     private static void races() {
-        promise = 24;
+        about("promise 24");
         RecordDesk x = racing();
         // 1-3 of cell 0; 2-4, 2-6, 6-8 of cell 1. (1 and 5 both load.)
         due("races(0)", () -> x.races(0), 4);
@@ -791,7 +710,7 @@ public final class PromisesTest {
     }
 
     private static void racesUpToTheLastTime() {
-        promise = 24;
+        about("promise 24");
         RecordDesk x = desk("thread a:store 0 0,jump a;thread a:store 0 0,jump a;thread a:store 0 0,jump a;");
         for (int i = 0; i < 8; i++) {
             due("steps(50)", () -> x.steps(50), 50);
@@ -811,7 +730,7 @@ public final class PromisesTest {
     }
 
     private static void race() {
-        promise = 25;
+        about("promise 25");
         RecordDesk x = racing();
         int[][] all = {{1, 3, 0}, {2, 4, 1}, {2, 6, 1}, {6, 8, 1}};
         for (int i = 0; i < 4; i++) {
@@ -831,7 +750,7 @@ public final class PromisesTest {
     }
 
     private static void guards() {
-        promise = 26;
+        about("promise 26");
         RecordDesk x = ran("thread lock 1,lock 3,store 2 0,load 0 5,unlock 1,load 0 2,unlock 3,load 0 7;", 8);
         due("guards(2)", () -> x.guards(2), 8);
         due("guards(5)", () -> x.guards(5), 10);
@@ -845,7 +764,7 @@ public final class PromisesTest {
     }
 
     private static void hot() {
-        promise = 27;
+        about("promise 27");
         RecordDesk x = ran("thread jump b,a:skip,b:skip,jump a;", 8);
         due("hot(NONE)", () -> x.hot(-1, 77), 4);
         int[][] all = {{0, 0, 1}, {0, 2, 3}, {0, 3, 2}, {0, 1, 2}};
@@ -865,15 +784,8 @@ public final class PromisesTest {
         due("hot(2, 1)", () -> y.hot(2, 1), 0);
     }
 
-    private static void diverged(RecordDesk x, int how, int i, int number, int... all) {
-        for (int what = 0; what < 3; what++) {
-            int w = what;
-            due("diverged(" + how + ", " + i + ", " + number + ", " + what + ")", () -> x.diverged(how, i, number, w), all[what]);
-        }
-    }
-
     private static void diverged() {
-        promise = 28;
+        about("promise 28");
         // Switches: (0, 0, 0), (0, 2, 1), (0, 5, 0); thread 1 has steps 3 to 7.
         RecordDesk x = ran("point 2;" + SIX_SKIPS + SIX_SKIPS, 8);
         diverged(x, 0, 0, 0, -1, -1, -1);
@@ -906,7 +818,7 @@ public final class PromisesTest {
     }
 
     private static void divergedDigests() {
-        promise = 28;
+        about("promise 28");
         RecordDesk x = desk("point 4;thread read 0 0,set 2 31,mul 2 0,sub 1 2;");
         x.give(0, 0);
         due("steps", () -> x.steps(50), 4);
@@ -920,7 +832,7 @@ public final class PromisesTest {
     }
 
     private static void divergedInputs() {
-        promise = 28;
+        about("promise 28");
         RecordDesk x = desk("point 2;thread a:read 0 1,zero 0 b,jump a,b:read 1 2,store 3 1;");
         x.give(1, 5);
         x.give(1, 0);
@@ -939,7 +851,7 @@ public final class PromisesTest {
     }
 
     private static void matters() {
-        promise = 29;
+        about("promise 29");
         RecordDesk x = desk("thread read 0 0,store 1 0,read 0 0,read 0 1,zero 0 a,jump b,a:skip,b:skip,lock 0;");
         x.give(0, 3);
         x.give(0, -1);
@@ -966,7 +878,7 @@ public final class PromisesTest {
     }
 
     private static void outcomes() {
-        promise = 30;
+        about("promise 30");
         RecordDesk x = desk("quantum 9;thread set 0 1,store 0 0;thread set 0 2,store 0 0;");
         due("outcomes(0, 0)", () -> x.outcomes(0, 0), 1);
         due("outcomes(0, 1)", () -> x.outcomes(0, 1), -1);
@@ -988,7 +900,7 @@ public final class PromisesTest {
     }
 
     private static void toSpare() {
-        promise = 31;
+        about("promise 31");
         RecordDesk x = desk("quantum 4;" + SIX_SKIPS);
         due("toSpare(0, 0)", () -> x.toSpare(0, 0), 1);
         due("toSpare(0, 1)", () -> x.toSpare(0, 1), 0);
@@ -1011,7 +923,7 @@ public final class PromisesTest {
     }
 
     private static void image() {
-        promise = 32;
+        about("promise 32");
         RecordDesk x = ran(LOOP, 5);
         x.image();
         x.steps(5);
@@ -1023,7 +935,7 @@ public final class PromisesTest {
 
     /** Acts and digests of the image are its own: others were put down in between. */
     private static void restoreBehindOtherActs() {
-        promise = 33;
+        about("promise 33");
         String text = "point 1;quantum 3;thread a:read 0 0,store 0 0,jump a;" + LOOP;
         RecordDesk x = desk(text);
         RecordDesk y = desk(text);
@@ -1060,7 +972,7 @@ public final class PromisesTest {
     }
 
     private static void restore() {
-        promise = 33;
+        about("promise 33");
         RecordDesk x = desk("point 3;quantum 2;thread a:read 0 0,store 0 0,jump a;" + SIX_SKIPS);
         due("restore() of none", () -> x.restore() ? 1 : 0, 0);
         x.give(0, 7);
