@@ -378,6 +378,7 @@ public final class LookBoundariesTest extends Checks {
         about("promise 26: GUARDS of a CELL: LOCKS that the doer had at each 'load', 'store' of it (bits; 15, if there is none)");
         RecordDesk x = desk("thread lock 0,lock 1,lock 2,lock 3,store 0 0,load 0 1,unlock 3,store 1 0,unlock 0,load 0 1,unlock 1,unlock 2,load 0 2;");
         for (int cell : new int[] {0, 15}) due("none yet", () -> x.guards(cell), 15);
+        due("none yet of what is next", () -> desk("thread load 0 4;").guards(4), 15);
         due("steps(5)", () -> x.steps(5), 5);
         due("all four", () -> x.guards(0), 15);
         due("steps(1)", () -> x.steps(1), 1);

@@ -479,6 +479,11 @@ public final class TextBoundariesTest extends Checks {
         text("thread jump b,a:skip,a:skip;", 4, 21);
         text("thread jump b;#", 1, 14);
         text("thread skip" + times(",skip", 14) + ",jump b;", 3, 87);
+        // A THREAD of sixteen LINES has no NAME of the one behind it; the last one has none behind it.
+        String full = "thread skip" + times(",skip", 14) + ",jump b;";
+        text(full + "thread b:skip;", 3, 87);
+        text(times("thread b:skip;", 3) + full, 3, 3 * 14 + 87);
+        text(times(full.replace("jump b", "b:jump b"), 4), 0, -1);
     }
 
     private static void quotedWordsAreNoNames() {
